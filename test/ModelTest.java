@@ -19,6 +19,7 @@ public final class ModelTest {
         runs("lots", 60, 7);
         runs("sheets", 80, 8);
         runs("all calls", 120, 9);
+        largeParades();
         anyNumbers();
         C.finish();
     }
@@ -437,6 +438,92 @@ public final class ModelTest {
         }
         due("worst()", x.worst(), y.worst());
         due("fault()", x.fault(), y.fault());
+    }
+
+    /** Twelve BODIES and 36 PIECES are too many to try all ways: what was given is shown to be the best. */
+    private static void largeParades() {
+        C.test("parades of twelve bodies and 36 pieces");
+        for (int run = 0; run < 40; run++) {
+            seed = 5000 + run;
+            x = new ClothForce();
+            x.store();
+            int wide = from(1, 14);
+            for (int s = 0; s < 12; s++) {
+                int low = from(0, 40);
+                x.size(0, low, low + below(wide), 0, 250, 0, 250);
+            }
+            for (int b = 0; b < 12; b++) {
+                x.body(0, 0, 0);
+                x.measure(b, 0, from(0, 50), 0);
+            }
+            for (int p = 0; p < 36; p++) {
+                x.piece(0, below(12), 0, from(30, 70));
+            }
+            bestParade(from(0, 30));
+        }
+    }
+
+    private static void bestParade(int e) {
+        int most = 0;
+        int first = -4;
+        for (int a = 0; a < 100; a++) {
+            int dressed = dressed(a, e, new int[0]);
+            if (dressed > most) {
+                most = dressed;
+                first = a;
+            }
+        }
+        due("parade(0, " + e + ", 0)", x.parade(0, e, 0), most);
+        due("parade(0, " + e + ", 1)", x.parade(0, e, 1), first);
+        int[] given = new int[0];
+        for (int b = 0; b < 12; b++) {
+            given = java.util.Arrays.copyOf(given, b + 1);
+            given[b] = 0;
+            while (given[b] < 36 && dressed(first, e, given) < most) {
+                given[b]++;
+            }
+            due("parade(0, " + e + ", 10 + " + b + ")", x.parade(0, e, 10 + b), given[b] < 36 ? given[b] : -4);
+        }
+    }
+
+    /** How many BODIES can be dressed if the first ones have what is given (36: none); -1: they can not. */
+    private static int dressed(int a, int e, int[] given) {
+        int[] holder = new int[36];
+        java.util.Arrays.fill(holder, -1);
+        int dressed = 0;
+        for (int b = 0; b < given.length; b++) {
+            if (given[b] < 36) {
+                if (holder[given[b]] >= 0 || !suits(b, given[b], a, e)) {
+                    return -1;
+                }
+                holder[given[b]] = b;
+                dressed++;
+            }
+        }
+        for (int b = given.length; b < 12; b++) {
+            dressed += finds(b, a, e, given.length, holder, new boolean[36]) ? 1 : 0;
+        }
+        return dressed;
+    }
+
+    private static boolean suits(int b, int p, int a, int e) {
+        int shade = x.pieceOf(p, 2);
+        return shade >= a && shade <= a + e && x.fits(x.pieceOf(p, 0), b, 0) == 1;
+    }
+
+    /** The old way by recursion: who holds a PIECE looks for another one, but those that were given stay. */
+    private static boolean finds(int b, int a, int e, int fixed, int[] holder, boolean[] seen) {
+        for (int p = 0; p < 36; p++) {
+            if (seen[p] || holder[p] >= 0 && holder[p] < fixed || !suits(b, p, a, e)) {
+                continue;
+            }
+            seen[p] = true;
+            if (holder[p] < 0 || finds(holder[p], a, e, fixed, holder, seen)) {
+                holder[p] = b;
+                return true;
+            }
+        }
+        return false;
     }
 
     /** Every call with any numbers on a full object: the machine itself never throws. */

@@ -164,6 +164,12 @@ public final class RegulationsTest {
         refuses("issue 0 1. ", 1, 9);
         refuses("issue 0 1;\n", 1, 10);
         refuses("issues 0 1;", 1, 0);
+        refuses("lifez 0 1;", 1, 0);
+        refuses("alife 0 1;", 1, 0);
+        refuses("life{ 0 1;", 1, 4);
+        refuses("life` 0 1;", 1, 4);
+        refuses("life 0 1:", 1, 8);
+        refuses("life 0/1;", 1, 6);
         refuses("issu 0 1;", 1, 0);
         refuses("  climates", 1, 2);
         refuses("life 0 10000;", 1, 7);

@@ -694,7 +694,7 @@ final class Model {
     }
 
     int ordered(int kind, int digits, int from, int to) {
-        if (!isStore(from) || !isStore(to) || from == to) {
+        if (!isStore(from) || !isStore(to)) {
             return BAD;
         }
         int answer = planned(kind, digits);
@@ -801,10 +801,10 @@ final class Model {
             if (v < 0 || v > 250) {
                 return -100 - i;
             }
-            if (measures.size() + read.size() == 60) {
-                return FULL;
-            }
             read.add(new Measure(i / 3, i % 3, (int) v, today, today));
+        }
+        if (measures.size() + read.size() > 60) {
+            return FULL;
         }
         measures.addAll(read);
         return measures.size();

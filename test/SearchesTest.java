@@ -18,6 +18,7 @@ public final class SearchesTest {
         orderWrong();
         ordered();
         orderedTies();
+        orderedOneStore();
         orderedWrong();
         lot();
         lotTerms();
@@ -261,9 +262,7 @@ public final class SearchesTest {
         int[][] due = {{0, 0, 0, 4}, {0, 0, 0, 0}, {0, 3, 0, 0}, {0, 0, 0, 0}};
         for (int from = 0; from < 4; from++) {
             for (int to = 0; to < 4; to++) {
-                if (from != to) {
-                    C.due("ordered(0, 0x4030, " + from + ", " + to + ")", x.ordered(0, 0x4030, from, to), due[from][to]);
-                }
+                C.due("ordered(0, 0x4030, " + from + ", " + to + ")", x.ordered(0, 0x4030, from, to), due[from][to]);
             }
         }
         C.due("stock(3, 0): nothing is moved", x.stock(3, 0), 0);
@@ -287,12 +286,28 @@ public final class SearchesTest {
         C.due("0 to 3 of 0x2020, alike once more", x.ordered(0, 0x2020, 0, 3), 2);
     }
 
+    private static void orderedOneStore() {
+        C.test("promise 31: ordered, from a store to itself");
+        ClothForce x = stocked(1, 0);
+        for (int s = 0; s < 2; s++) {
+            C.due("ordered(0, 0, s, s): more may stay", x.ordered(0, 0, s, s), 0);
+            C.due("ordered(0, 0x10, s, s): one is moved, to another", x.ordered(0, 0x10, s, s), 0);
+            C.due("ordered(0, 0x01, s, s): as it is", x.ordered(0, 0x01, s, s), 0);
+            C.due("ordered(0, 0x11, s, s): too few in all", x.ordered(0, 0x11, s, s), NONE);
+            C.due("ordered(0, 0x100, s, s): more digits", x.ordered(0, 0x100, s, s), BAD);
+            C.due("ordered(0, -1, s, s)", x.ordered(0, -1, s, s), BAD);
+            C.due("ordered(4, 0, s, s)", x.ordered(4, 0, s, s), BAD);
+        }
+        C.due("ordered(0, 0, 2, 2): no such store", x.ordered(0, 0, 2, 2), BAD);
+        C.due("ordered(0, 0, -1, -1): no such store", x.ordered(0, 0, -1, -1), BAD);
+        C.due("ordered(0, 0, 0, 0), no store", new ClothForce().ordered(0, 0, 0, 0), BAD);
+    }
+
     private static void orderedWrong() {
         C.test("promise 31: ordered, wrong numbers");
         ClothForce x = stocked(1, 0);
         C.due("ordered(0, 0x10, 0, 1)", x.ordered(0, 0x10, 0, 1), 1);
         C.due("ordered(0, 0x10, 1, 0)", x.ordered(0, 0x10, 1, 0), 0);
-        C.due("ordered(0, 0x10, 0, 0)", x.ordered(0, 0x10, 0, 0), BAD);
         C.due("ordered(0, 0x10, 0, 2)", x.ordered(0, 0x10, 0, 2), BAD);
         C.due("ordered(0, 0x10, -1, 1)", x.ordered(0, 0x10, -1, 1), BAD);
         C.due("ordered(0, 0x10, 2, 1)", x.ordered(0, 0x10, 2, 1), BAD);

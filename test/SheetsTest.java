@@ -19,6 +19,7 @@ public final class SheetsTest {
         scanNoMeasure();
         scanFirstMet();
         scanFull();
+        scanCellsBeforeFull();
         scanWrong();
         count();
         countWrong();
@@ -236,16 +237,42 @@ public final class SheetsTest {
         C.due("scan(0, 0, 24)", x.scan(0, BYTES, 24), FULL);
         C.due("count(8): none is told", x.count(8), 36);
         C.due("told(0, 3)", x.told(0, 3), 0);
+        // 24 more have room, 36 have not.
+        for (int i = 0; i < 24; i++) {
+            C.due("measure", x.measure(0, 0, 1, 0), 37 + i);
+        }
+        C.due("scan(0, 0, 0)", x.scan(0, BYTES, 0), FULL);
         ClothForce y = ready(4, BYTES);
         for (int turn = 1; turn <= 5; turn++) {
             C.due("scan(0, 0, 0)", y.scan(0, BYTES, 0), 12 * turn);
         }
         C.due("scan(0, 0, 0)", y.scan(0, BYTES, 0), FULL);
         C.due("measure(0, 0, 1, 0)", y.measure(0, 0, 1, 0), FULL);
+    }
+
+    private static void scanCellsBeforeFull() {
+        C.test("promise 36: scan, a fault of any cell is met ahead of full");
+        ClothForce x = ready(12, BYTES);
+        C.due("scan(0, 0, 0)", x.scan(0, BYTES, 0), 36);
+        C.due("scan(0, 0, 25): the last is no cell", x.scan(0, BYTES, 25), INDEX);
+        x.lay(0, 59, -1);
+        C.due("scan(0, 0, 24): the last is no measure", x.scan(0, BYTES, 24), -135);
+        C.due("scan(0, 0, 25): that first", x.scan(0, BYTES, 25), -134);
+        C.due("scan(0, 0, 23): all are good", x.scan(0, BYTES, 23), FULL);
+        x.lay(0, 24, -1);
+        C.due("scan(0, 0, 24): the first", x.scan(0, BYTES, 24), -100);
+        C.due("count(8): none is told", x.count(8), 36);
+        ClothForce y = ready(4, BYTES);
+        for (int turn = 1; turn <= 5; turn++) {
+            C.due("scan(0, 0, 0)", y.scan(0, BYTES, 0), 12 * turn);
+        }
         C.due("scan(0, 0, -1): no cell", y.scan(0, BYTES, -1), INDEX);
+        C.due("scan(0, 0, 49): the last is no cell", y.scan(0, BYTES, 49), INDEX);
         C.due("scan(0, 1, 0)", y.scan(0, SHORTS, 0), CAST);
-        y.lay(0, 0, -7);
-        C.due("scan(0, 0, 0): no measure", y.scan(0, BYTES, 0), -100);
+        C.due("scan(1, 0, 0)", y.scan(1, BYTES, 0), NULL);
+        y.lay(0, 11, -7);
+        C.due("scan(0, 0, 0): the last is no measure", y.scan(0, BYTES, 0), -111);
+        C.due("scan(0, 0, 12)", y.scan(0, BYTES, 12), FULL);
     }
 
     private static void scanWrong() {

@@ -387,7 +387,8 @@ public final class ClothForce {
     }
 
     public int ordered(int kind, int digits, int from, int to) {
-        if (!stores.has(from) || !stores.has(to) || from == to) {
+        // One and the same STORE is no wrong number here: nothing is MOVED within it.
+        if (!stores.has(from) || !stores.has(to)) {
             return BAD;
         }
         int answer = planned(kind, digits);
@@ -470,6 +471,10 @@ public final class ClothForce {
             if (refusal != 0) {
                 return refusal;
             }
+        }
+        // FULL is told of all CELLS: it is met where none of them has been refused.
+        if (measures.many + cells > MEASURES) {
+            return FULL;
         }
         for (int i = 0; i < cells; i++) {
             measures.add(i / MEASURE_KINDS, i % MEASURE_KINDS, sheets.cells[k][f + i], today, today);
@@ -672,10 +677,7 @@ public final class ClothForce {
         if (!sheets.hasCell(k, f + i)) {
             return INDEX_FAULT;
         }
-        if (!isMeasure(sheets.cells[k][f + i])) {
-            return -100 - i;
-        }
-        return measures.many + i >= MEASURES ? FULL : 0;
+        return isMeasure(sheets.cells[k][f + i]) ? 0 : -100 - i;
     }
 
     /** In how many ways k of n can be drawn. */

@@ -16,6 +16,7 @@ public final class PiecesTest {
         back();
         lost();
         lostCharge();
+        lostShortLife();
         move();
         fail();
         stock();
@@ -259,6 +260,18 @@ public final class PiecesTest {
         x.day(9);
         C.due("lost(3): 100 * 364 / 365", x.lost(3), 99);
         C.due("count(10)", x.count(10), 42 + 9991 + 99);
+    }
+
+    private static void lostShortLife() {
+        C.test("promise 25: lost, a life of one day");
+        ClothForce x = ready();
+        Checks.read(x, "issue 0 9;life 0 1;price 0 77;");
+        x.issue(0, 0);
+        x.issue(1, 0);
+        C.due("lost(0): on the day of its issue", x.lost(0), 77);
+        x.day(1);
+        C.due("lost(1): worn out", x.lost(1), 0);
+        C.due("told(0, 7)", x.told(0, 7), 77);
     }
 
     private static void move() {

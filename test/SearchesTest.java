@@ -9,6 +9,7 @@ public final class SearchesTest {
         paradeLastShade();
         paradePieces();
         paradeChanges();
+        paradeLongChange();
         paradeStores();
         paradeFits();
         paradeWrong();
@@ -128,6 +129,24 @@ public final class SearchesTest {
         paradeIs(x, 0, 2, 0, 1, 2, NONE);
         x.fail(1);
         paradeIs(x, 0, 1, 0, NONE, 2, NONE);
+    }
+
+    /** BODY 11 can have PIECE 0 alone, BODY b PIECE b or b + 1: for it all others must take the next one. */
+    private static void paradeLongChange() {
+        C.test("promise 29: parade, all twelve bodies change");
+        ClothForce x = new ClothForce();
+        x.store();
+        for (int b = 0; b < 12; b++) {
+            x.body(0, 0, 0);
+            x.measure(b, 0, b == 11 ? 10 : 20 + 10 * b, 0);
+            x.size(0, 10 + 10 * b, b == 11 ? 120 : 20 + 10 * b, 0, 0, 0, 0);
+        }
+        for (int p = 0; p < 12; p++) {
+            x.piece(0, p, 0, 30 + p);
+        }
+        paradeIs(x, 10, 11, 30, 0, 1, 2, 3, 4, 5, 6, 7, 8, 9, 10, NONE);
+        paradeIs(x, 11, 12, 30, 1, 2, 3, 4, 5, 6, 7, 8, 9, 10, 11, 0);
+        paradeIs(x, 12, 12, 29, 1, 2, 3, 4, 5, 6, 7, 8, 9, 10, 11, 0);
     }
 
     private static void paradeStores() {

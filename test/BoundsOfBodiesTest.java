@@ -786,6 +786,15 @@ public final class BoundsOfBodiesTest {
         sizedNone();
         sizedUpTo50();
         sizedLeastLeeway();
+        sizedDay();
+        C.test("promise 10, 'the first that fits': BAD ahead of NONE");
+        for (int asked = 1; asked <= 2; asked++) {
+            int what = asked;
+            C.due("sized(0, 3, 0, what)", Camp.some().sized(0, 3, 0, what), NONE);
+            B.outside("sized(b, 3, 0, what)", Camp::some, 0, Camp.BODIES - 1, (x, b) -> x.sized(b, 3, 0, what));
+        }
+        B.outside("sized(0, 3, e, 1)", Camp::some, 0, 50, (x, e) -> x.sized(0, 3, e, 1));
+        B.outside("sized(0, 3, 0, what)", Camp::some, 0, 2, (x, what) -> x.sized(0, 3, 0, what));
     }
 
     private static void sizedNotLookedAt() {
@@ -857,6 +866,21 @@ public final class BoundsOfBodiesTest {
         C.due("sized(0, 0, 3, 1)", x.sized(0, 0, 3, 1), 1);
     }
 
+    private static void sizedDay() {
+        C.test("promise 10, 'what is known on THE DAY, for THE DAY': the day from which, the one ahead of it");
+        ClothForce x = withChests(10);
+        x.size(0, 20, 20, 0, 0, 0, 0);
+        x.measure(0, 0, 20, 4);
+        x.day(3);
+        C.due("how many on day 3", x.sized(0, 0, 9, 0), 0);
+        C.due("the least on day 3", x.sized(0, 0, 9, 1), NONE);
+        C.due("the least leeway on day 3", x.sized(0, 0, 9, 2), 10);
+        x.day(4);
+        C.due("how many on day 4", x.sized(0, 0, 0, 0), 1);
+        C.due("the least on day 4", x.sized(0, 0, 0, 1), 0);
+        C.due("the least leeway on day 4", x.sized(0, 0, 0, 2), 0);
+    }
+
     // ---- promise 11
 
     private static void chosen() {
@@ -874,6 +898,7 @@ public final class BoundsOfBodiesTest {
         chosenFewest();
         chosenLeastSum();
         chosenAllBits();
+        chosenDay();
     }
 
     private static void chosenIs(ClothForce x, int n, int many, int sizes, int out) {
@@ -1003,5 +1028,19 @@ public final class BoundsOfBodiesTest {
         x.size(0, 12, 12, 0, 0, 0, 0);
         chosenIs(x, 1, 1, 1 << 11, (1 << 11) - 1);
         chosenIs(x, 0, 0, 0, (1 << 12) - 1);
+    }
+
+    private static void chosenDay() {
+        C.test("promise 11, 'what is known on THE DAY, for THE DAY': the day from which, the one ahead of it");
+        ClothForce x = withChests(10, 10);
+        x.size(0, 10, 10, 0, 0, 0, 0);
+        x.size(0, 20, 20, 0, 0, 0, 0);
+        x.measure(1, 0, 20, 4);
+        x.day(3);
+        chosenIs(x, 1, 2, 1, 0);
+        chosenIs(x, 2, 2, 1, 0);
+        x.day(4);
+        chosenIs(x, 1, 1, 1, 2);
+        chosenIs(x, 2, 2, 3, 0);
     }
 }

@@ -51,6 +51,13 @@ public final class BoundsOfSearchesTest {
         B.between("parade(0, e, 1)", Camp::some, 0, 99, (x, e) -> x.parade(0, e, 1));
         B.between("parade(0, e, 10)", Camp::some, 0, 99, (x, e) -> x.parade(0, e, 10));
         paradeWhat();
+        C.test("promise 29, 'the first that fits': BAD ahead of NONE");
+        C.due("parade(3, 0, 1)", Camp.some().parade(3, 0, 1), NONE);
+        B.outside("parade(3, e, 1)", Camp::some, 0, 99, (x, e) -> x.parade(3, e, 1));
+        B.outside("parade(3, e, 10)", Camp::some, 0, 99, (x, e) -> x.parade(3, e, 10));
+        for (int what : new int[] {-1, 2, 9, 10 + Camp.BODIES}) {
+            B.refused("parade(3, 0, " + what + ")", Camp::some, BAD, x -> x.parade(3, 0, what));
+        }
         paradeNobody();
         paradeNobodyFits();
         paradeShades();
@@ -63,6 +70,7 @@ public final class BoundsOfSearchesTest {
         paradeInStores();
         paradeWornOut();
         paradeFits();
+        paradeFitsNoMore();
         paradeAll();
     }
 
@@ -127,6 +135,9 @@ public final class BoundsOfSearchesTest {
                 paradeIs(line(1, shade), e, 1, Math.max(0, shade - e), 0);
             }
         }
+        paradeIs(line(1, 40, 40, 10), 0, 1, 10, 2);
+        paradeIs(line(1, 10, 40, 40, 99, 99, 99), 0, 1, 10, 0);
+        paradeIs(line(2, 10, 10, 40, 40, 40), 0, 2, 10, 0, 1);
         paradeIs(line(2, 10, 12, 40, 42), 2, 2, 10, 0, 1);
         paradeIs(line(2, 40, 42, 10, 12), 2, 2, 10, 2, 3);
         paradeIs(line(2, 40, 42, 10, 12), 3, 2, 9, 2, 3);
@@ -159,6 +170,13 @@ public final class BoundsOfSearchesTest {
         paradeIs(line(3, 7, 7), 0, 2, 7, 0, 1, NONE);
         paradeIs(line(3, 7, 7, 7), 0, 3, 7, 0, 1, 2);
         paradeIs(line(3, 7, 7, 7, 7), 0, 3, 7, 0, 1, 2);
+        ClothForce x = line(3, 7);
+        x.measure(0, 0, 9, 0);
+        x.size(0, 9, 9, 0, 0, 0, 0);
+        x.piece(0, 1, 0, 7);
+        x.piece(0, 1, 0, 7);
+        // PIECES 1 and 2 FIT BODY 0 alone, so that 1 and 2 have PIECE 0 alone.
+        paradeIs(x, 0, 2, 7, 1, 0, NONE);
     }
 
     private static void paradeNoneBehindAll() {
@@ -235,6 +253,26 @@ public final class BoundsOfSearchesTest {
                 paradeIs(x, 0, fits ? 1 : 0, fits ? 6 : NONE, fits ? 0 : NONE);
             }
         }
+    }
+
+    private static void paradeFitsNoMore() {
+        C.test("promise 29, 'whose SIZE FITS': a BODY that FITTED the day ahead, another KIND asked between");
+        ClothForce x = line(2);
+        x.size(0, 1, 9, 0, 0, 0, 0);
+        x.size(1, 0, 250, 0, 0, 0, 0);
+        x.piece(0, 1, 0, 5);
+        x.piece(0, 2, 0, 5);
+        x.measure(0, 0, 9, 0);
+        x.measure(1, 0, 10, 0);
+        x.measure(0, 0, 10, 1);
+        x.measure(1, 0, 9, 1);
+        paradeIs(x, 0, 1, 5, 0, NONE);
+        C.due("parade(1, 0, 10)", x.parade(1, 0, 10), 1);
+        x.day(1);
+        paradeIs(x, 0, 1, 5, NONE, 0);
+        C.due("parade(1, 0, 11)", x.parade(1, 0, 11), NONE);
+        x.measure(1, 0, 11, 1);
+        paradeIs(x, 0, 0, NONE, NONE, NONE);
     }
 
     private static void paradeAll() {

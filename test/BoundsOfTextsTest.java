@@ -184,6 +184,7 @@ public final class BoundsOfTextsTest {
         textOfNothing();
         textEmptiesTape();
         textInPlace();
+        textInPlaceOfTests();
         textKeepsByFault();
         textLines();
     }
@@ -236,6 +237,20 @@ public final class BoundsOfTextsTest {
             C.due("why(0, kind, 9999)", x.why(0, kind, 9999), NONE);
             C.due("rule(kind, 0, 9999)", x.rule(kind, 0, 9999), 365);
             C.due("rule(kind, 1, 9999)", x.rule(kind, 1, 9999), kind == 1 ? 7 : 100);
+        }
+    }
+
+    private static void textInPlaceOfTests() {
+        C.test("promise 14, 'in place of those that were told': no test of an old line stays, of a refused one neither");
+        ClothForce x = new ClothForce();
+        x.body(0, 0, 0);
+        for (int turn = 0; turn < 4; turn++) {
+            Checks.read(x, "issue 0 7 if rank>1 and duty>1 and climate>1;");
+            C.due("due with tests", x.due(0, 0, 0), 0);
+            Checks.read(x, turn < 2 ? "issue 0 7;" : "issue 0 7 if rank<1;");
+            C.due("due behind it", x.due(0, 0, 0), 7);
+            Checks.read(x, "issue 0 8 if rank>1 and duty>1 and climate>1;?");
+            C.due("due behind a refused one", x.due(0, 0, 0), 7);
         }
     }
 
@@ -347,6 +362,10 @@ public final class BoundsOfTextsTest {
                 accepts("life 0 5" + (char) sign + ";", 1);
             } else {
                 refuses("life 0 5" + (char) sign + ";", other ? MISPLACED : NO_TOKEN, 8);
+            }
+            if (letter) {
+                refuses("life" + (char) sign + " 0 5;", NO_TOKEN, 0);
+                refuses((char) sign + "life 0 5;", NO_TOKEN, 0);
             }
             if (!letter && !figure && !other && sign != ' ') {
                 refuses("" + (char) sign, NO_TOKEN, 0);
@@ -727,6 +746,10 @@ public final class BoundsOfTextsTest {
         whyNought();
         whyFirst();
         whyLines();
+        C.test("promise 17, 'the first that fits': BAD ahead of NONE");
+        B.outside("why(b, 3, 0)", Camp::some, 0, Camp.BODIES - 1, (x, b) -> x.why(b, 3, 0));
+        B.outside("why(0, 3, day)", Camp::some, 0, 9999, (x, day) -> x.why(0, 3, day));
+        B.outside("why(0, kind, 0) of no line", ClothForce::new, 0, 3, (x, kind) -> x.why(0, kind, 0));
         C.test("promise 17, 'NONE: none holds': it changes nothing");
         B.refused("why(0, 3, 9999)", Camp::some, NONE, x -> x.why(0, 3, 9999));
     }

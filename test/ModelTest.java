@@ -1,5 +1,9 @@
-/** Random runs of calls, each answer against that of Model; the numbers come from a seed, always the same. */
+/**
+ * Random runs of calls, each answer against that of Model; the numbers come from a seed, always the same. An object is
+ * promised for 512 calls: no answer behind them is asked for.
+ */
 public final class ModelTest {
+    private static final int CALLS = 512;
     private static final Checks C = new Checks();
     private static final int[] EDGES = {-1, -2, Integer.MIN_VALUE, Integer.MAX_VALUE, 1 << 30, -100};
     private static final String[] WORDS = {"from", "issue", "life", "price", "if", "and", "rank", "duty", "climate",
@@ -8,17 +12,19 @@ public final class ModelTest {
     private static long seed;
     private static ClothForce x;
     private static Model y;
+    private static int calls;
 
     public static void main(String[] args) {
         runs("bodies and measures", 60, 1);
         runs("sizes that fit", 60, 2);
-        runs("regulations", 150, 3);
+        runs("regulations", 400, 3);
         runs("pieces and their way", 60, 4);
         runs("parades", 120, 5);
         runs("orders of the day", 80, 6);
         runs("lots", 60, 7);
         runs("sheets", 80, 8);
         runs("all calls", 120, 9);
+        anyBodiesFit();
         largeParades();
         anyNumbers();
         C.finish();
@@ -40,23 +46,30 @@ public final class ModelTest {
     }
 
     private static void due(String call, long got, long want) {
+        calls++;
         C.due(call, got, want);
+    }
+
+    private static void newObjects() {
+        x = new ClothForce();
+        y = new Model();
+        calls = 0;
     }
 
     private static void runs(String name, int many, int profile) {
         C.test("against the model: " + name);
         for (int run = 0; run < many; run++) {
             seed = 1000003L * profile + run;
-            x = new ClothForce();
-            y = new Model();
-            play(profile, run);
+            newObjects();
+            play(profile);
             sameState();
         }
     }
 
-    private static void play(int profile, int run) {
+    /** A step has 40 calls at most; what is left of 512 is for the state behind all. */
+    private static void play(int profile) {
         ready(profile);
-        for (int call = 0; call < 150; call++) {
+        for (int turn = 0; turn < 150 && calls < CALLS - 140; turn++) {
             step(profile == 9 ? from(1, 8) : profile);
         }
     }
@@ -416,20 +429,10 @@ public final class ModelTest {
         }
     }
 
-    /** All that can be asked without a change. */
+    /** What can be asked without a change: all that is short, and of BODIES and PIECES as much as there are calls left. */
     private static void sameState() {
         for (int what = 0; what <= 12; what++) {
             due("count(" + what + ")", x.count(what), y.count(what));
-        }
-        for (int b = 0; b < y.count(0); b++) {
-            for (int what = 0; what < 24; what++) {
-                due("told(" + b + ", " + what + ")", x.told(b, what), y.told(b, what));
-            }
-        }
-        for (int p = 0; p < y.count(3); p++) {
-            for (int what = 0; what < 9; what++) {
-                due("pieceOf(" + p + ", " + what + ")", x.pieceOf(p, what), y.pieceOf(p, what));
-            }
         }
         for (int l = 0; l < 6; l++) {
             for (int what = 0; what < 4; what++) {
@@ -438,26 +441,98 @@ public final class ModelTest {
         }
         due("worst()", x.worst(), y.worst());
         due("fault()", x.fault(), y.fault());
+        while (calls < CALLS) {
+            if (below(2) == 0) {
+                int b = b();
+                int what = from(0, 23);
+                due("told(" + b + ", " + what + ")", x.told(b, what), y.told(b, what));
+            } else {
+                int p = p();
+                int what = from(0, 8);
+                due("pieceOf(" + p + ", " + what + ")", x.pieceOf(p, what), y.pieceOf(p, what));
+            }
+        }
     }
+
+    /**
+     * Six BODIES each far out on a side of its own, so that there is a SIZE for any set of them: who can have which PIECE
+     * is free, as it hardly ever is by numbers from a seed.
+     */
+    private static void anyBodiesFit() {
+        C.test("promise 29, against the model: any BODIES for each PIECE");
+        for (int run = 0; run < 1500; run++) {
+            seed = 9000 + run;
+            newObjects();
+            int bodies = from(1, 6);
+            for (int b = 0; b < bodies; b++) {
+                sideBody(b);
+            }
+            due("store()", x.store(), y.store());
+            int dense = from(1, 4);
+            int sizes = from(1, 7);
+            for (int s = 0; s < sizes; s++) {
+                sizeFor(dense);
+                int shade = 60 + (run % 3 == 0 ? 0 : below(3));
+                due("piece(0, " + s + ", 0, " + shade + ")", x.piece(0, s, 0, shade), y.piece(0, s, 0, shade));
+            }
+            int e = run % 3;
+            for (int what = 0; what < 10 + bodies; what += what == 1 ? 9 : 1) {
+                due("parade(0, " + e + ", " + what + ")", x.parade(0, e, what), y.parade(0, e, what));
+            }
+        }
+    }
+
+    /** All MEASURES are 100, but one that is 50 or 150. */
+    private static void sideBody(int b) {
+        due("body(0, 0, 0)", x.body(0, 0, 0), y.body(0, 0, 0));
+        for (int what = 0; what < 3; what++) {
+            int v = what != b / 2 ? 100 : b % 2 == 0 ? 50 : 150;
+            due("measure(" + b + ", " + what + ", " + v + ", 0)", x.measure(b, what, v, 0), y.measure(b, what, v, 0));
+        }
+    }
+
+    /** A SIZE that FITS each BODY or not: so many of five on the average. */
+    private static void sizeFor(int dense) {
+        int[] c = new int[6];
+        for (int side = 0; side < 6; side++) {
+            boolean fits = below(5) < dense;
+            c[side] = !fits ? 100 : side % 2 == 0 ? 50 : 150;
+        }
+        due("size(0, ..)", x.size(0, c[0], c[1], c[2], c[3], c[4], c[5]), y.size(0, c));
+    }
+
+    private static final int MANY = 36;
+    private static final int[] SHADES = new int[MANY];
+    private static final boolean[][] SUITS = new boolean[12][MANY];
 
     /** Twelve BODIES and 36 PIECES are too many to try all ways: what was given is shown to be the best. */
     private static void largeParades() {
-        C.test("parades of twelve bodies and 36 pieces");
-        for (int run = 0; run < 40; run++) {
+        C.test("promise 29: parades of twelve BODIES and 36 PIECES");
+        for (int run = 0; run < 60; run++) {
             seed = 5000 + run;
-            x = new ClothForce();
+            newObjects();
             x.store();
             int wide = from(1, 14);
+            int[] low = new int[12];
+            int[] high = new int[12];
             for (int s = 0; s < 12; s++) {
-                int low = from(0, 40);
-                x.size(0, low, low + below(wide), 0, 250, 0, 250);
+                low[s] = from(0, 40);
+                high[s] = low[s] + below(wide);
+                x.size(0, low[s], high[s], 0, 250, 0, 250);
             }
+            int[] chest = new int[12];
             for (int b = 0; b < 12; b++) {
+                chest[b] = from(0, 50);
                 x.body(0, 0, 0);
-                x.measure(b, 0, from(0, 50), 0);
+                x.measure(b, 0, chest[b], 0);
             }
-            for (int p = 0; p < 36; p++) {
-                x.piece(0, below(12), 0, from(30, 70));
+            for (int p = 0; p < MANY; p++) {
+                int s = below(12);
+                SHADES[p] = from(30, 70);
+                x.piece(0, s, 0, SHADES[p]);
+                for (int b = 0; b < 12; b++) {
+                    SUITS[b][p] = chest[b] >= low[s] && chest[b] <= high[s];
+                }
             }
             bestParade(from(0, 30));
         }
@@ -479,20 +554,20 @@ public final class ModelTest {
         for (int b = 0; b < 12; b++) {
             given = java.util.Arrays.copyOf(given, b + 1);
             given[b] = 0;
-            while (given[b] < 36 && dressed(first, e, given) < most) {
+            while (given[b] < MANY && dressed(first, e, given) < most) {
                 given[b]++;
             }
-            due("parade(0, " + e + ", 10 + " + b + ")", x.parade(0, e, 10 + b), given[b] < 36 ? given[b] : -4);
+            due("parade(0, " + e + ", 10 + " + b + ")", x.parade(0, e, 10 + b), given[b] < MANY ? given[b] : -4);
         }
     }
 
     /** How many BODIES can be dressed if the first ones have what is given (36: none); -1: they can not. */
     private static int dressed(int a, int e, int[] given) {
-        int[] holder = new int[36];
+        int[] holder = new int[MANY];
         java.util.Arrays.fill(holder, -1);
         int dressed = 0;
         for (int b = 0; b < given.length; b++) {
-            if (given[b] < 36) {
+            if (given[b] < MANY) {
                 if (holder[given[b]] >= 0 || !suits(b, given[b], a, e)) {
                     return -1;
                 }
@@ -501,19 +576,18 @@ public final class ModelTest {
             }
         }
         for (int b = given.length; b < 12; b++) {
-            dressed += finds(b, a, e, given.length, holder, new boolean[36]) ? 1 : 0;
+            dressed += finds(b, a, e, given.length, holder, new boolean[MANY]) ? 1 : 0;
         }
         return dressed;
     }
 
     private static boolean suits(int b, int p, int a, int e) {
-        int shade = x.pieceOf(p, 2);
-        return shade >= a && shade <= a + e && x.fits(x.pieceOf(p, 0), b, 0) == 1;
+        return SHADES[p] >= a && SHADES[p] <= a + e && SUITS[b][p];
     }
 
     /** The old way by recursion: who holds a PIECE looks for another one, but those that were given stay. */
     private static boolean finds(int b, int a, int e, int fixed, int[] holder, boolean[] seen) {
-        for (int p = 0; p < 36; p++) {
+        for (int p = 0; p < MANY; p++) {
             if (seen[p] || holder[p] >= 0 && holder[p] < fixed || !suits(b, p, a, e)) {
                 continue;
             }
@@ -526,7 +600,7 @@ public final class ModelTest {
         return false;
     }
 
-    /** Every call with any numbers on a full object: the machine itself never throws. */
+    /** Every call with any numbers on a full object, behind 512 calls too: the machine itself never throws. */
     private static void anyNumbers() {
         C.test("no call throws, whatever its numbers are");
         int[] all = {Integer.MIN_VALUE, -100, -1, 0, 1, 2, 3, 4, 5, 6, 9, 10, 11, 12, 13, 21, 22, 35, 36, 50, 59, 60, 61, 99, 100, 240,

@@ -109,10 +109,13 @@ public final class FaceTest {
                 C.due(m + " has a name of its own", hides ? 1 : 0, 0);
                 C.due(m + " takes seven numbers at most", m.getParameterCount() <= 7 ? 1 : 0, 1);
             }
+            int fields = 0;
             for (Field f : one.getDeclaredFields()) {
-                boolean loose = Modifier.isStatic(f.getModifiers()) && !Modifier.isFinal(f.getModifiers());
-                C.due(f + " is no static state", loose ? 1 : 0, 0);
+                boolean isStatic = Modifier.isStatic(f.getModifiers());
+                C.due(f + " is no static state", isStatic && !Modifier.isFinal(f.getModifiers()) ? 1 : 0, 0);
+                fields += isStatic ? 0 : 1;
             }
+            C.due(one + " has some twenty fields, not " + fields, fields <= 20 ? 1 : 0, 1);
         }
     }
 

@@ -50,7 +50,7 @@ public final class ClothForce {
     private final Stores stores;
     private final Pieces pieces;
     private final Choice choice;
-    private final Parade ranks;
+    private final Parade lineUp;
     private final Sheets sheets;
 
     public ClothForce() {
@@ -64,7 +64,7 @@ public final class ClothForce {
         stores = new Stores();
         pieces = new Pieces();
         choice = new Choice();
-        ranks = new Parade();
+        lineUp = new Parade();
         sheets = new Sheets();
     }
 
@@ -307,7 +307,7 @@ public final class ClothForce {
         if (!pieces.has(p) || !stores.has(store)) {
             return BAD;
         }
-        if (!pieces.isWorn(p)) {
+        if (!pieces.isWithBody(p)) {
             return STATE;
         }
         pieces.takeOff(p, today);
@@ -319,7 +319,7 @@ public final class ClothForce {
         if (!pieces.has(p)) {
             return BAD;
         }
-        if (!pieces.isWorn(p)) {
+        if (!pieces.isWithBody(p)) {
             return STATE;
         }
         int b = pieces.bodyOf[p];
@@ -371,14 +371,14 @@ public final class ClothForce {
             return BAD;
         }
         layOut(kind);
-        ranks.findShade(e);
+        lineUp.findShade(e);
         if (what == 0) {
-            return ranks.most;
+            return lineUp.most;
         }
         if (what == 1) {
-            return ranks.most == 0 ? NONE : ranks.shade;
+            return lineUp.most == 0 ? NONE : lineUp.shade;
         }
-        return ranks.pieceFor(what - 10);
+        return lineUp.pieceFor(what - 10);
     }
 
     public int order(int kind, int digits) {
@@ -489,8 +489,8 @@ public final class ClothForce {
             case 2: return stores.many;
             case 3: return pieces.many;
             case 4: return pieces.countStored();
-            case 5: return pieces.countWorn();
-            case 6: return pieces.many - pieces.countStored() - pieces.countWorn();
+            case 5: return pieces.countWithBodies();
+            case 6: return pieces.many - pieces.countStored() - pieces.countWithBodies();
             case 7: return rules.lines;
             case 8: return measures.many;
             case 9: return today;
@@ -637,7 +637,7 @@ public final class ClothForce {
 
     /** Tells the parade who is there and which PIECES of a KIND in STORES each could get. */
     private void layOut(int kind) {
-        ranks.clear(bodies.many);
+        lineUp.clear(bodies.many);
         for (int s = 0; s < sizes.many; s++) {
             if (!sizes.isOf(s, kind)) {
                 continue;
@@ -645,7 +645,7 @@ public final class ClothForce {
             int fitted = fittedBy(s);
             for (int p = 0; p < pieces.many; p++) {
                 if (pieces.sizeOf[p] == s && pieces.isStored(p)) {
-                    ranks.offer(p, pieces.shadeOf[p], fitted);
+                    lineUp.offer(p, pieces.shadeOf[p], fitted);
                 }
             }
         }
@@ -1354,16 +1354,16 @@ public final class ClothForce {
             return storeOf[p] >= 0;
         }
 
-        boolean isWorn(int p) {
+        boolean isWithBody(int p) {
             return bodyOf[p] >= 0;
         }
 
         boolean isGone(int p) {
-            return !isStored(p) && !isWorn(p);
+            return !isStored(p) && !isWithBody(p);
         }
 
         int wornBy(int p, int today) {
-            return wornBefore[p] + (isWorn(p) ? today - issuedOn[p] : 0);
+            return wornBefore[p] + (isWithBody(p) ? today - issuedOn[p] : 0);
         }
 
         void handOut(int p, int b, int today) {
@@ -1396,10 +1396,10 @@ public final class ClothForce {
             return sum;
         }
 
-        int countWorn() {
+        int countWithBodies() {
             int sum = 0;
             for (int p = 0; p < many; p++) {
-                sum += isWorn(p) ? 1 : 0;
+                sum += isWithBody(p) ? 1 : 0;
             }
             return sum;
         }
